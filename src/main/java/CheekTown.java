@@ -1260,6 +1260,7 @@ public final class CheekTown {
         int faultAt = NONE;
         private final int[] text;
         private final int length;
+        private int takenAt;
         private int at;
         private int behind;
 
@@ -1283,22 +1284,28 @@ public final class CheekTown {
                     return true;
                 }
                 if (!takeSign(';')) {
-                    return wrong();
+                    return nextIsWrong();
                 }
             }
-            return wrong();
+            return nextIsWrong();
         }
 
-        final boolean wrong() {
+        final boolean nextIsWrong() {
             faultAt = at;
             return false;
         }
 
-        final int thingsLeft() {
+        final boolean takenIsWrong() {
+            faultAt = takenAt;
+            return false;
+        }
+
+        final int bytesLeft() {
             return length - at;
         }
 
         private void goOn() {
+            takenAt = at;
             at = behind;
             while (at < length && text[at] == ' ') {
                 at++;
@@ -1317,7 +1324,7 @@ public final class CheekTown {
             }
         }
 
-        final boolean isWord(String word) {
+        final boolean takeWord(String word) {
             if (behind - at != word.length()) {
                 return false;
             }
@@ -1326,47 +1333,30 @@ public final class CheekTown {
                     return false;
                 }
             }
+            goOn();
             return true;
         }
 
-        final boolean takeWord(String word) {
-            boolean is = isWord(word);
-            if (is) {
-                goOn();
-            }
-            return is;
-        }
-
-        final boolean isSign(char sign) {
-            return at < length && text[at] == sign;
-        }
-
         final boolean takeSign(char sign) {
-            boolean is = isSign(sign);
-            if (is) {
+            boolean stands = at < length && text[at] == sign;
+            if (stands) {
                 goOn();
             }
-            return is;
+            return stands;
         }
 
-        final boolean isNumber() {
+        final boolean isNumberNext() {
             return at < length && text[at] >= '0' && text[at] <= '9';
-        }
-
-        /** The number that stands there; NONE, if none does or it has too many digits. */
-        final int numberAhead() {
-            int number = isNumber() && behind - at <= MOST_DIGITS ? 0 : NONE;
-            for (int i = at; number != NONE && i < behind && i < length; i++) {
-                number = 10 * number + text[i] - '0';
-            }
-            return number;
         }
 
         /** NONE, and a fault, if no such number stands there. */
         final int takeNumber(int least, int most) {
-            int number = numberAhead();
+            int number = isNumberNext() && behind - at <= MOST_DIGITS ? 0 : NONE;
+            for (int i = at; number != NONE && i < behind && i < length; i++) {
+                number = 10 * number + text[i] - '0';
+            }
             if (number < least || number > most) {
-                wrong();
+                nextIsWrong();
                 return NONE;
             }
             goOn();
@@ -1376,7 +1366,7 @@ public final class CheekTown {
         /** NONE, and a fault, if the word is missing or no such number stands behind it. */
         final int takeNumberNamed(String word, int least, int most) {
             if (!takeWord(word)) {
-                wrong();
+                nextIsWrong();
                 return NONE;
             }
             return takeNumber(least, most);
@@ -1393,18 +1383,20 @@ public final class CheekTown {
             if (takeWord("embrace")) {
                 return Manners.codeOf(Manners.EMBRACE, 1, 0);
             }
-            int kisses = takeNumberNamed("kiss", 1, Manners.MOST_KISSES);
+            if (!takeWord("kiss")) {
+                nextIsWrong();
+                return NONE;
+            }
+            int kisses = takeNumber(1, Manners.MOST_KISSES);
             if (kisses == NONE) {
                 return NONE;
             }
-            if (takeWord("left")) {
-                return Manners.codeOf(Manners.KISS, kisses, 0);
+            boolean left = takeWord("left");
+            if (!left && !takeWord("right")) {
+                nextIsWrong();
+                return NONE;
             }
-            if (takeWord("right")) {
-                return Manners.codeOf(Manners.KISS, kisses, 1);
-            }
-            wrong();
-            return NONE;
+            return Manners.codeOf(Manners.KISS, kisses, left ? 0 : 1);
         }
     }
 
@@ -1419,19 +1411,19 @@ public final class CheekTown {
 
         @Override
         boolean readLine() {
-            if (isWord("land")) {
+            if (takeWord("land")) {
                 return readLand();
             }
-            if (isWord("habit")) {
+            if (takeWord("habit")) {
                 return readHabit();
             }
-            if (isWord("person")) {
+            if (takeWord("person")) {
                 return readPerson();
             }
-            if (isWord("cold")) {
+            if (takeWord("cold")) {
                 return readCold();
             }
-            if (isWord("tie")) {
+            if (takeWord("tie")) {
                 return readTie();
             }
             return readPrice();
@@ -1439,17 +1431,17 @@ public final class CheekTown {
 
         private boolean readLand() {
             if (town.lands.landCount >= Lands.MOST_LANDS) {
-                return wrong();
+                return takenIsWrong();
             }
             town.lands.landCount++;
-            return takeWord("land");
+            return true;
         }
 
         private boolean readHabit() {
             if (town.lands.habitCount >= Lands.MOST_HABITS) {
-                return wrong();
+                return takenIsWrong();
             }
-            int land = takeNumberNamed("habit", 0, town.lands.landCount - 1);
+            int land = takeNumber(0, town.lands.landCount - 1);
             if (land == NONE) {
                 return false;
             }
@@ -1467,9 +1459,9 @@ public final class CheekTown {
 
         private boolean readPerson() {
             if (town.peopleCount >= MOST_PEOPLE) {
-                return wrong();
+                return takenIsWrong();
             }
-            int land = takeNumberNamed("person", 0, town.lands.landCount - 1);
+            int land = takeNumber(0, town.lands.landCount - 1);
             if (land == NONE) {
                 return false;
             }
@@ -1490,7 +1482,7 @@ public final class CheekTown {
         }
 
         private boolean readCold() {
-            int person = takeNumberNamed("cold", 0, town.peopleCount - 1);
+            int person = takeNumber(0, town.peopleCount - 1);
             if (person == NONE) {
                 return false;
             }
@@ -1500,27 +1492,30 @@ public final class CheekTown {
 
         private boolean readTie() {
             if (town.tieCount >= MOST_TIES) {
-                return wrong();
+                return takenIsWrong();
             }
-            int who = takeNumberNamed("tie", 0, town.peopleCount - 1);
+            int who = takeNumber(0, town.peopleCount - 1);
             if (who == NONE) {
                 return false;
             }
-            int whom = numberAhead();
-            if (whom == who || whom >= 0 && whom < town.peopleCount && town.areTied(who, whom)) {
-                return wrong();
-            }
-            if (takeNumber(0, town.peopleCount - 1) == NONE) {
+            int whom = takeNumber(0, town.peopleCount - 1);
+            if (whom == NONE) {
                 return false;
+            }
+            if (whom == who || town.areTied(who, whom)) {
+                return takenIsWrong();
             }
             town.addTie(who, whom);
             return true;
         }
 
         private boolean readPrice() {
-            boolean isStomach = isWord("stomach");
-            boolean isAir = isWord("air");
-            int price = takeNumberNamed(isStomach ? "stomach" : isAir ? "air" : "noses", 0, Manners.MOST_PRICE);
+            boolean isStomach = takeWord("stomach");
+            boolean isAir = !isStomach && takeWord("air");
+            if (!isStomach && !isAir && !takeWord("noses")) {
+                return nextIsWrong();
+            }
+            int price = takeNumber(0, Manners.MOST_PRICE);
             if (price == NONE) {
                 return false;
             }
@@ -1561,7 +1556,7 @@ public final class CheekTown {
 
         private boolean readAny(int depth) {
             boolean right = readAll(depth);
-            for (int left = thingsLeft(); left > 0 && right && takeWord("or"); left--) {
+            for (int left = bytesLeft(); left > 0 && right && takeWord("or"); left--) {
                 right = readAll(depth);
                 law.addStep(Law.OR, 0);
             }
@@ -1570,7 +1565,7 @@ public final class CheekTown {
 
         private boolean readAll(int depth) {
             boolean right = readAtom(depth);
-            for (int left = thingsLeft(); left > 0 && right && takeWord("and"); left--) {
+            for (int left = bytesLeft(); left > 0 && right && takeWord("and"); left--) {
                 right = readAtom(depth);
                 law.addStep(Law.AND, 0);
             }
@@ -1578,17 +1573,9 @@ public final class CheekTown {
         }
 
         private boolean readAtom(int depth) {
-            boolean goesDeeper = isWord("not") || isSign('(');
-            if (goesDeeper && depth >= MOST_DEEP) {
-                return wrong();
-            }
-            if (takeWord("not")) {
-                boolean right = readAtom(depth + 1);
-                law.addStep(Law.NOT, 0);
-                return right;
-            }
-            if (takeSign('(')) {
-                return readAny(depth + 1) && (takeSign(')') || wrong());
+            boolean isNot = takeWord("not");
+            if (isNot || takeSign('(')) {
+                return depth < MOST_DEEP ? readDeeper(isNot, depth + 1) : takenIsWrong();
             }
             if (takeWord("same")) {
                 law.addStep(Law.SAME, 0);
@@ -1598,25 +1585,30 @@ public final class CheekTown {
                 law.addStep(Law.COLD, 0);
                 return true;
             }
-            return readComparison();
-        }
-
-        private boolean readComparison() {
             if (!readSum()) {
                 return false;
             }
-            int step = isSign('<') ? Law.LESS : Law.MORE;
-            if (!takeSign('<') && !takeSign('>')) {
-                return wrong();
+            boolean isLess = takeSign('<');
+            if (!isLess && !takeSign('>')) {
+                return nextIsWrong();
             }
             boolean right = readSum();
-            law.addStep(step, 0);
+            law.addStep(isLess ? Law.LESS : Law.MORE, 0);
+            return right;
+        }
+
+        private boolean readDeeper(boolean isNot, int depth) {
+            if (!isNot) {
+                return readAny(depth) && (takeSign(')') || nextIsWrong());
+            }
+            boolean right = readAtom(depth);
+            law.addStep(Law.NOT, 0);
             return right;
         }
 
         private boolean readSum() {
             boolean right = readPart();
-            for (int left = thingsLeft(); left > 0 && right && takeSign('+'); left--) {
+            for (int left = bytesLeft(); left > 0 && right && takeSign('+'); left--) {
                 right = readPart();
                 law.addStep(Law.PLUS, 0);
             }
@@ -1624,7 +1616,7 @@ public final class CheekTown {
         }
 
         private boolean readPart() {
-            if (isNumber()) {
+            if (isNumberNext()) {
                 int number = takeNumber(0, Law.MOST_NUMBER);
                 law.addStep(Law.NUMBER, number);
                 return number != NONE;
@@ -1637,7 +1629,7 @@ public final class CheekTown {
                 : takeWord("round") ? Law.ROUND
                 : NONE;
             law.addStep(step, 0);
-            return step != NONE || wrong();
+            return step != NONE || nextIsWrong();
         }
     }
 
