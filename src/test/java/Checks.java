@@ -77,6 +77,7 @@ final class Checks {
         return number;
     }
 
+    /** A town told in these texts, each of which must be right. */
     static CheekTown townOf(String... texts) {
         CheekTown x = new CheekTown();
         for (String text : texts) {
