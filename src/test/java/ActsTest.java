@@ -13,6 +13,7 @@ public final class ActsTest {
         seed();
         undo();
         undoesAll();
+        latestTwo();
         thirteenth();
         image();
         Checks.finish();
@@ -193,6 +194,27 @@ public final class ActsTest {
         Checks.due("fault stays", x.fault(), 0);
         x.back();
         Checks.due("the image stays", x.person(0, 1), 3);
+    }
+
+    /** What one saw at both latest times is kept too. */
+    private static void latestTwo() {
+        CheekTown x = Checks.townOf("land;person 0 wave rank 0 bent 0;person 0 hand rank 0 bent 0;tie 0 1");
+        Checks.law(x, "wave if who < 1;hand");
+        x.meet(0, 1);
+        x.meet(0, 1);
+        x.image();
+        x.meet(0, 1);
+        Checks.due("the third time", x.person(0, 1), 8);
+        x.undo();
+        Checks.due("undone", x.person(0, 1), 0);
+        x.meet(0, 1);
+        Checks.due("the third time again", x.person(0, 1), 8);
+        x.back();
+        Checks.due("gone back", x.person(0, 1), 0);
+        Checks.due("a trial of a third time", x.trial(1, 2), 2);
+        x.own(1, 8);
+        x.meet(1, 0);
+        Checks.due("the third time once more", x.person(0, 1), 8);
     }
 
     private static void thirteenth() {

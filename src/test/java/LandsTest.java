@@ -110,6 +110,9 @@ public final class LandsTest {
         Checks.due("from reads no text", x.fault(), 0);
         Checks.town(x, "habit 1 hand weight 1");
         Checks.due("3 of 5 is more than 3 of 6", Checks.from(x, true, 8), 1);
+        Checks.town(x, "habit 2 hand weight 1");
+        Checks.due("1 of 1", Checks.from(x, false, 8), 7);
+        Checks.due("1 of 1 is more than 3 of 5", Checks.from(x, true, 8), 2);
     }
 
     private static void fromFour() {
@@ -145,6 +148,9 @@ public final class LandsTest {
         Checks.town(x, "habit 1 wave weight 1");
         // a wave 2 * 20, a hand 30 + 2 * 10; the best ones 0 and 2 * 10
         Checks.due("less what the best ones cost", x.worth(), 20);
+        Checks.town(x, "habit 0 hand weight 2");
+        // a wave 20 + 2 * 20, a hand 30 + 2 * 10; the best ones 20 and 2 * 10
+        Checks.due("the best one of the first one's land costs too", x.worth(), 10);
         Checks.town(x, "stomach 0");
         Checks.due("at no cost", x.worth(), 0);
     }

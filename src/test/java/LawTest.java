@@ -6,6 +6,7 @@ public final class LawTest {
     public static void main(String[] args) {
         lines();
         wrongLaws();
+        cutShort();
         depth();
         atoms();
         joins();
@@ -84,6 +85,23 @@ public final class LawTest {
         Checks.wrongLaw(x, "land", 0);
     }
 
+    /** Whatever goes on is wrong at its end, as long as it isn't whole. */
+    private static void cutShort() {
+        CheekTown x = new CheekTown();
+        String[] parts = {"kiss", " 2", " left", " if", " (", " not", " rank", " +", " 3", " <", " met", " and", " same", " )", " or", " cold", " ;", " wave"};
+        String text = "";
+        for (int i = 0; i < parts.length; i++) {
+            text = text + parts[i];
+            if (i == 2 || i == 13 || i == 15 || i == 17) {
+                Checks.rightLaw(x, text, i == 17 ? 2 : 1);
+            } else {
+                Checks.wrongLaw(x, text, text.length());
+                Checks.wrongLaw(x, text + "  ", text.length() + 2);
+                Checks.wrongLaw(x, text + " ?", text.length() + 1);
+            }
+        }
+    }
+
     private static void depth() {
         CheekTown x = new CheekTown();
         Checks.rightLaw(x, "wave if ((((((same))))))", 1);
@@ -112,6 +130,8 @@ public final class LawTest {
         Checks.due("cold of the other one", holds(x, "cold", 0, 1), true);
         Checks.due("cold of oneself", holds(x, "cold", 1, 2), true);
         Checks.due("cold of somebody else", holds(x, "cold", 0, 2), false);
+        Checks.due("not cold", holds(x, "not cold", 0, 1), false);
+        Checks.due("cold and same", holds(x, "cold and same", 0, 1), true);
         Checks.due("rank", holds(x, "rank > 4", 0, 1), true);
         Checks.due("rank", holds(x, "rank > 4", 1, 0), false);
         Checks.due("theirs", holds(x, "theirs > 4", 1, 0), true);

@@ -7,6 +7,7 @@ public final class TownTextTest {
         bounds();
         blanks();
         wrongWords();
+        cutShort();
         wrongNumbers();
         tooMany();
         ties();
@@ -120,6 +121,27 @@ public final class TownTextTest {
         Checks.wrongTown(x, "air", 3);
         Checks.wrongTown(x, "air wave", 4);
         Checks.wrongTown(x, "wave", 0);
+    }
+
+    /** A line is wrong at its end as long as it isn't whole. */
+    private static void cutShort() {
+        String[][] lines = {{"habit", " 0", " kiss", " 2", " right", " weight", " 3"}, {"person", " 0", " hand", " rank", " 1", " bent", " 2"},
+            {"cold", " 0"}, {"tie", " 0", " 1"}, {"stomach", " 1"}, {"air", " 1"}, {"noses", " 1"}};
+        for (String[] line : lines) {
+            CheekTown x = Checks.townOf(TWO);
+            String text = "";
+            for (int i = 0; i < line.length; i++) {
+                text = text + line[i];
+                if (i < line.length - 1) {
+                    Checks.wrongTown(x, text, text.length());
+                    Checks.wrongTown(x, text + " ", text.length() + 1);
+                    Checks.wrongTown(x, text + " ;land", text.length() + 1);
+                } else {
+                    Checks.wrongTown(x, text + ";", text.length() + 1);
+                    Checks.rightTown(x, text + " ");
+                }
+            }
+        }
     }
 
     private static void wrongNumbers() {

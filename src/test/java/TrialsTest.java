@@ -1,3 +1,5 @@
+import java.util.Arrays;
+
 /** Promises 37 to 39: who changed by the log, trials and spans. From SEED 1 the draws modulo 100 are 38, 58, 13, 15, 51, 27. */
 public final class TrialsTest {
     private static final String THREE = "land;person 0 wave rank 0 bent 40;person 0 hand rank 1 bent 0;person 0 embrace rank 2 bent 0";
@@ -7,6 +9,7 @@ public final class TrialsTest {
         changedByLog();
         trial();
         span();
+        spans();
         wrong();
         Checks.finish();
     }
@@ -110,6 +113,32 @@ public final class TrialsTest {
         CheekTown none = new CheekTown();
         Checks.due("nobody", none.span(20, false), 0);
         Checks.due("nobody", none.span(20, true), 0);
+    }
+
+    /** Each of the six seeds is somewhere the only one with the fewest, or with the most. */
+    private static void spans() {
+        int alone = 0;
+        for (int bent = 2; bent < 100; bent += 3) {
+            CheekTown x = Checks.townOf("land;person 0 wave rank 0 bent " + bent + ";person 0 hand rank 1 bent " + bent / 2
+                + ";person 0 embrace rank 2 bent 9;tie 0 1;tie 1 2;tie 0 2");
+            for (int n = 1; n <= 5; n++) {
+                int[] costs = new int[6];
+                for (int seed = 1; seed <= 6; seed++) {
+                    x.seed(seed);
+                    costs[seed - 1] = x.trial(n, 0);
+                }
+                int[] sorted = costs.clone();
+                Arrays.sort(sorted);
+                Checks.due("span(" + n + ", false)", x.span(n, false), sorted[0]);
+                Checks.due("span(" + n + ", true)", x.span(n, true), sorted[5]);
+                for (int i = 0; i < 6; i++) {
+                    boolean fewest = costs[i] == sorted[0] && sorted[0] < sorted[1];
+                    boolean most = costs[i] == sorted[5] && sorted[5] > sorted[4];
+                    alone |= fewest || most ? 1 << i : 0;
+                }
+            }
+        }
+        Checks.due("seeds that were alone", alone, 63);
     }
 
     private static void wrong() {

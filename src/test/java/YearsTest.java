@@ -12,6 +12,7 @@ public final class YearsTest {
         most();
         custom();
         ring();
+        strip();
         told();
         wrong();
         Checks.finish();
@@ -94,6 +95,29 @@ public final class YearsTest {
         Checks.due("one must be told now", x.told(8, 0), 4);
         // 1 and 3 keep an embrace between a hand and a wave, and win these; two neighbours, or 0 and 2, don't win
         Checks.due("an embrace", x.told(24, 5), 10);
+    }
+
+    /** Each is tied to the two ahead; 0 and 1 wave, all others do what nobody else does: a wave wins one a year. */
+    private static void strip() {
+        CheekTown x = Checks.townOf("land", "person 0 wave rank 0 bent 0" + ";person 0 wave rank 0 bent 0".repeat(9));
+        x.ties(1, 0);
+        for (int p = 2; p < 10; p++) {
+            x.own(p, 31 - p);
+            x.ties(p, p - 1);
+            x.ties(p - 2, p);
+        }
+        for (int n = 0; n <= 8; n++) {
+            Checks.due("who waves after " + n, x.after(n, 2), n + 2);
+            Checks.due("greetings after " + n, x.after(n, 0), 9 - n);
+            for (int p = 2; p < 10; p++) {
+                Checks.due("custom(" + p + ", " + n + ")", x.custom(p, n), p - 1 <= n ? 0 : 31 - p);
+            }
+        }
+        Checks.due("still", x.still(), 8);
+        Checks.due("none must be told", x.told(0, 8), 0);
+        Checks.due("one more must be told", x.told(0, 7), 4);
+        x.own(0, 31);
+        Checks.due("0 or any other", x.told(0, 60), 1);
     }
 
     private static void told() {
