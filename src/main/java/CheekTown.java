@@ -1409,7 +1409,6 @@ public final class CheekTown {
             this.town = town;
         }
 
-        @Override
         boolean readLine() {
             if (takeWord("land")) {
                 return readLand();
@@ -1541,7 +1540,6 @@ public final class CheekTown {
             this.law = law;
         }
 
-        @Override
         boolean readLine() {
             int greeting = takeGreeting();
             if (greeting == NONE) {

@@ -14,6 +14,8 @@ public final class ActsTest {
         undo();
         undoesAll();
         latestTwo();
+        latestButOne();
+        wholeLog();
         thirteenth();
         image();
         Checks.finish();
@@ -215,6 +217,50 @@ public final class ActsTest {
         x.own(1, 8);
         x.meet(1, 0);
         Checks.due("the third time once more", x.person(0, 1), 8);
+    }
+
+    private static void latestButOne() {
+        CheekTown x = Checks.townOf("land;person 0 wave rank 0 bent 0;person 0 hand rank 0 bent 0");
+        Checks.law(x, "wave if who < 1;embrace if met < 1;hand");
+        x.meet(0, 1);
+        x.meet(0, 1);
+        x.image();
+        x.meet(0, 1);
+        x.undo();
+        x.meet(0, 1);
+        Checks.due("embrace, hand, hand, behind an undo", x.person(0, 1), 0);
+        x.back();
+        x.meet(0, 1);
+        Checks.due("embrace, hand, hand, behind a back", x.person(0, 1), 0);
+        x.meet(0, 1);
+        Checks.due("embrace, hand, hand, hand", x.person(0, 1), 8);
+    }
+
+    /** All rows of the log come back, also those that newer ones were written over. */
+    private static void wholeLog() {
+        CheekTown x = Checks.townOf(FOUR);
+        for (int i = 0; i < 50; i++) {
+            x.meet(i % 3, 3);
+        }
+        x.image();
+        int[][] rows = new int[61][8];
+        for (int ago = 0; ago <= 60; ago++) {
+            for (int what = 0; what < 8; what++) {
+                rows[ago][what] = x.log(ago, what);
+            }
+        }
+        x.rounds(50);
+        x.rounds(1);
+        for (int i = 0; i < 2; i++) {
+            x.undo();
+        }
+        x.rounds(30);
+        x.back();
+        for (int ago = 0; ago <= 60; ago++) {
+            for (int what = 0; what < 8; what++) {
+                Checks.due("log(" + ago + ", " + what + ")", x.log(ago, what), rows[ago][what]);
+            }
+        }
     }
 
     private static void thirteenth() {

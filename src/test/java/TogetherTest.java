@@ -40,6 +40,7 @@ public final class TogetherTest {
         // 0 1 3 2 4: 10, 0, 10, 4, 2
         seats(x, 31, 26, 0, 1, 3, 2, 4);
         seats(x, -1, 26, 0, 1, 3, 2, 4);
+        seats(x, 32, 0);
         Checks.law(x, "embrace");
         seats(x, 31, 26, 0, 1, 3, 2, 4);
         Checks.town(x, "stomach 0");

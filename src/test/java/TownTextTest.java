@@ -76,6 +76,13 @@ public final class TownTextTest {
         Checks.wrongTown(x, "person 0 wave rank 1 2 bent 3", 21);
         Checks.wrongTown(x, "landland", 0);
         Checks.wrongTown(x, "land\tland", 4);
+        Checks.wrongTown(x, "landz", 0);
+        Checks.wrongTown(x, "aland", 0);
+        Checks.wrongTown(x, "land{", 4);
+        Checks.wrongTown(x, "land`", 4);
+        Checks.wrongTown(x, "air 9:", 5);
+        Checks.wrongTown(x, "air 9/", 5);
+        Checks.wrongTown(x, "air 9\u00e1", 5);
         Checks.wrongTown(x, "Land", 0);
         Checks.wrongTown(x, "lanD", 0);
         Checks.wrongTown(x, "landX", 4);
