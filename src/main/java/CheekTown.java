@@ -1253,7 +1253,7 @@ public final class CheekTown {
         }
     }
 
-    /** Reads a text thing by thing; faultAt is the first wrong byte, NONE as long as there is none. */
+    /** Reads a text thing by thing. Behind its first wrong byte nothing is taken any more. */
     private abstract static class TextReader {
         private static final int MOST_DIGITS = 3;
 
@@ -1269,35 +1269,39 @@ public final class CheekTown {
             this.length = Math.min(length, text.length);
         }
 
-        abstract boolean readLine();
+        abstract void readLine();
 
+        /** Whether the text is right. */
         final boolean readLines(int mostLines) {
             goOn();
-            if (at >= length) {
-                return true;
-            }
-            for (int line = 0; line < mostLines; line++) {
-                if (!readLine()) {
-                    return false;
-                }
-                if (at >= length) {
-                    return true;
-                }
-                if (!takeSign(';')) {
-                    return nextIsWrong();
+            boolean more = at < length;
+            for (int line = 0; line < mostLines && more && faultAt == NONE; line++) {
+                readLine();
+                more = at < length;
+                if (more) {
+                    readSign(';');
                 }
             }
-            return nextIsWrong();
+            if (more) {
+                nextIsWrong();
+            }
+            return faultAt == NONE;
         }
 
-        final boolean nextIsWrong() {
-            faultAt = at;
-            return false;
+        final boolean isWrong() {
+            return faultAt != NONE;
         }
 
-        final boolean takenIsWrong() {
-            faultAt = takenAt;
-            return false;
+        final void nextIsWrong() {
+            if (faultAt == NONE) {
+                faultAt = at;
+            }
+        }
+
+        final void takenIsWrong() {
+            if (faultAt == NONE) {
+                faultAt = takenAt;
+            }
         }
 
         final int bytesLeft() {
@@ -1325,7 +1329,7 @@ public final class CheekTown {
         }
 
         final boolean takeWord(String word) {
-            if (behind - at != word.length()) {
+            if (faultAt != NONE || behind - at != word.length()) {
                 return false;
             }
             for (int i = 0; i < word.length() && at + i < length; i++) {
@@ -1337,25 +1341,37 @@ public final class CheekTown {
             return true;
         }
 
+        final void readWord(String word) {
+            if (!takeWord(word)) {
+                nextIsWrong();
+            }
+        }
+
         final boolean takeSign(char sign) {
-            boolean stands = at < length && text[at] == sign;
+            boolean stands = faultAt == NONE && at < length && text[at] == sign;
             if (stands) {
                 goOn();
             }
             return stands;
         }
 
-        final boolean isNumberNext() {
+        final void readSign(char sign) {
+            if (!takeSign(sign)) {
+                nextIsWrong();
+            }
+        }
+
+        private boolean isNumberNext() {
             return at < length && text[at] >= '0' && text[at] <= '9';
         }
 
-        /** NONE, and a fault, if no such number stands there. */
-        final int takeNumber(int least, int most) {
+        /** NONE, if no such number stands there: then the text is wrong. */
+        final int readNumber(int least, int most) {
             int number = isNumberNext() && behind - at <= MOST_DIGITS ? 0 : NONE;
             for (int i = at; number != NONE && i < behind && i < length; i++) {
                 number = 10 * number + text[i] - '0';
             }
-            if (number < least || number > most) {
+            if (faultAt != NONE || number < least || number > most) {
                 nextIsWrong();
                 return NONE;
             }
@@ -1363,17 +1379,8 @@ public final class CheekTown {
             return number;
         }
 
-        /** NONE, and a fault, if the word is missing or no such number stands behind it. */
-        final int takeNumberNamed(String word, int least, int most) {
-            if (!takeWord(word)) {
-                nextIsWrong();
-                return NONE;
-            }
-            return takeNumber(least, most);
-        }
-
-        /** NONE, and a fault, if no greeting stands there. */
-        final int takeGreeting() {
+        /** NONE, if no greeting stands there: then the text is wrong. */
+        final int readGreeting() {
             if (takeWord("wave")) {
                 return Manners.codeOf(Manners.WAVE, 1, 0);
             }
@@ -1383,20 +1390,13 @@ public final class CheekTown {
             if (takeWord("embrace")) {
                 return Manners.codeOf(Manners.EMBRACE, 1, 0);
             }
-            if (!takeWord("kiss")) {
-                nextIsWrong();
-                return NONE;
-            }
-            int kisses = takeNumber(1, Manners.MOST_KISSES);
-            if (kisses == NONE) {
-                return NONE;
-            }
+            readWord("kiss");
+            int kisses = readNumber(1, Manners.MOST_KISSES);
             boolean left = takeWord("left");
-            if (!left && !takeWord("right")) {
-                nextIsWrong();
-                return NONE;
+            if (!left) {
+                readWord("right");
             }
-            return Manners.codeOf(Manners.KISS, kisses, left ? 0 : 1);
+            return faultAt != NONE ? NONE : Manners.codeOf(Manners.KISS, kisses, left ? 0 : 1);
         }
     }
 
@@ -1409,115 +1409,88 @@ public final class CheekTown {
             this.town = town;
         }
 
-        boolean readLine() {
+        void readLine() {
             if (takeWord("land")) {
-                return readLand();
+                readLand();
+            } else if (takeWord("habit")) {
+                readHabit();
+            } else if (takeWord("person")) {
+                readPerson();
+            } else if (takeWord("cold")) {
+                readCold();
+            } else if (takeWord("tie")) {
+                readTie();
+            } else {
+                readPrice();
             }
-            if (takeWord("habit")) {
-                return readHabit();
-            }
-            if (takeWord("person")) {
-                return readPerson();
-            }
-            if (takeWord("cold")) {
-                return readCold();
-            }
-            if (takeWord("tie")) {
-                return readTie();
-            }
-            return readPrice();
         }
 
-        private boolean readLand() {
+        private void readLand() {
             if (town.lands.landCount >= Lands.MOST_LANDS) {
-                return takenIsWrong();
+                takenIsWrong();
+            } else {
+                town.lands.landCount++;
             }
-            town.lands.landCount++;
-            return true;
         }
 
-        private boolean readHabit() {
+        private void readHabit() {
             if (town.lands.habitCount >= Lands.MOST_HABITS) {
-                return takenIsWrong();
+                takenIsWrong();
             }
-            int land = takeNumber(0, town.lands.landCount - 1);
-            if (land == NONE) {
-                return false;
+            int land = readNumber(0, town.lands.landCount - 1);
+            int greeting = readGreeting();
+            readWord("weight");
+            int weight = readNumber(1, Lands.MOST_WEIGHT);
+            if (!isWrong()) {
+                town.lands.addHabit(land, greeting, weight);
             }
-            int greeting = takeGreeting();
-            if (greeting == NONE) {
-                return false;
-            }
-            int weight = takeNumberNamed("weight", 1, Lands.MOST_WEIGHT);
-            if (weight == NONE) {
-                return false;
-            }
-            town.lands.addHabit(land, greeting, weight);
-            return true;
         }
 
-        private boolean readPerson() {
+        private void readPerson() {
             if (town.peopleCount >= MOST_PEOPLE) {
-                return takenIsWrong();
+                takenIsWrong();
             }
-            int land = takeNumber(0, town.lands.landCount - 1);
-            if (land == NONE) {
-                return false;
+            int land = readNumber(0, town.lands.landCount - 1);
+            int greeting = readGreeting();
+            readWord("rank");
+            int rank = readNumber(0, Person.MOST_RANK);
+            readWord("bent");
+            int bent = readNumber(0, Person.MOST_BENT);
+            if (!isWrong()) {
+                town.addPerson(land, greeting, rank, bent);
             }
-            int greeting = takeGreeting();
-            if (greeting == NONE) {
-                return false;
-            }
-            int rank = takeNumberNamed("rank", 0, Person.MOST_RANK);
-            if (rank == NONE) {
-                return false;
-            }
-            int bent = takeNumberNamed("bent", 0, Person.MOST_BENT);
-            if (bent == NONE) {
-                return false;
-            }
-            town.addPerson(land, greeting, rank, bent);
-            return true;
         }
 
-        private boolean readCold() {
-            int person = takeNumber(0, town.peopleCount - 1);
-            if (person == NONE) {
-                return false;
+        private void readCold() {
+            int person = readNumber(0, town.peopleCount - 1);
+            if (!isWrong()) {
+                town.people[person].hasCold = true;
             }
-            town.people[person].hasCold = true;
-            return true;
         }
 
-        private boolean readTie() {
+        private void readTie() {
             if (town.tieCount >= MOST_TIES) {
-                return takenIsWrong();
+                takenIsWrong();
             }
-            int who = takeNumber(0, town.peopleCount - 1);
-            if (who == NONE) {
-                return false;
+            int who = readNumber(0, town.peopleCount - 1);
+            int whom = readNumber(0, town.peopleCount - 1);
+            if (isWrong()) {
+                return;
             }
-            int whom = takeNumber(0, town.peopleCount - 1);
-            if (whom == NONE) {
-                return false;
+            if (who == whom || town.areTied(who, whom)) {
+                takenIsWrong();
+            } else {
+                town.addTie(who, whom);
             }
-            if (whom == who || town.areTied(who, whom)) {
-                return takenIsWrong();
-            }
-            town.addTie(who, whom);
-            return true;
         }
 
-        private boolean readPrice() {
+        private void readPrice() {
             boolean isStomach = takeWord("stomach");
             boolean isAir = !isStomach && takeWord("air");
-            if (!isStomach && !isAir && !takeWord("noses")) {
-                return nextIsWrong();
+            if (!isStomach && !isAir) {
+                readWord("noses");
             }
-            int price = takeNumber(0, Manners.MOST_PRICE);
-            if (price == NONE) {
-                return false;
-            }
+            int price = readNumber(0, Manners.MOST_PRICE);
             if (isStomach) {
                 town.manners.stomach = price;
             } else if (isAir) {
@@ -1525,7 +1498,6 @@ public final class CheekTown {
             } else {
                 town.manners.noses = price;
             }
-            return true;
         }
     }
 
@@ -1540,94 +1512,78 @@ public final class CheekTown {
             this.law = law;
         }
 
-        boolean readLine() {
-            int greeting = takeGreeting();
-            if (greeting == NONE) {
-                return false;
-            }
-            if (takeWord("if") && !readAny(0)) {
-                return false;
+        void readLine() {
+            int greeting = readGreeting();
+            if (takeWord("if")) {
+                readAny(0);
             }
             law.addLine(greeting);
-            return true;
         }
 
-        private boolean readAny(int depth) {
-            boolean right = readAll(depth);
-            for (int left = bytesLeft(); left > 0 && right && takeWord("or"); left--) {
-                right = readAll(depth);
+        private void readAny(int depth) {
+            readAll(depth);
+            for (int left = bytesLeft(); left > 0 && takeWord("or"); left--) {
+                readAll(depth);
                 law.addStep(Law.OR, 0);
             }
-            return right;
         }
 
-        private boolean readAll(int depth) {
-            boolean right = readAtom(depth);
-            for (int left = bytesLeft(); left > 0 && right && takeWord("and"); left--) {
-                right = readAtom(depth);
+        private void readAll(int depth) {
+            readAtom(depth);
+            for (int left = bytesLeft(); left > 0 && takeWord("and"); left--) {
+                readAtom(depth);
                 law.addStep(Law.AND, 0);
             }
-            return right;
         }
 
-        private boolean readAtom(int depth) {
+        private void readAtom(int depth) {
             boolean isNot = takeWord("not");
             if (isNot || takeSign('(')) {
-                return depth < MOST_DEEP ? readDeeper(isNot, depth + 1) : takenIsWrong();
-            }
-            if (takeWord("same")) {
+                readDeeper(isNot, depth + 1);
+            } else if (takeWord("same")) {
                 law.addStep(Law.SAME, 0);
-                return true;
-            }
-            if (takeWord("cold")) {
+            } else if (takeWord("cold")) {
                 law.addStep(Law.COLD, 0);
-                return true;
+            } else {
+                readSum();
+                boolean isLess = takeSign('<');
+                if (!isLess) {
+                    readSign('>');
+                }
+                readSum();
+                law.addStep(isLess ? Law.LESS : Law.MORE, 0);
             }
-            if (!readSum()) {
-                return false;
-            }
-            boolean isLess = takeSign('<');
-            if (!isLess && !takeSign('>')) {
-                return nextIsWrong();
-            }
-            boolean right = readSum();
-            law.addStep(isLess ? Law.LESS : Law.MORE, 0);
-            return right;
         }
 
-        private boolean readDeeper(boolean isNot, int depth) {
-            if (!isNot) {
-                return readAny(depth) && (takeSign(')') || nextIsWrong());
+        private void readDeeper(boolean isNot, int depth) {
+            if (depth > MOST_DEEP) {
+                takenIsWrong();
+            } else if (isNot) {
+                readAtom(depth);
+                law.addStep(Law.NOT, 0);
+            } else {
+                readAny(depth);
+                readSign(')');
             }
-            boolean right = readAtom(depth);
-            law.addStep(Law.NOT, 0);
-            return right;
         }
 
-        private boolean readSum() {
-            boolean right = readPart();
-            for (int left = bytesLeft(); left > 0 && right && takeSign('+'); left--) {
-                right = readPart();
+        private void readSum() {
+            readPart();
+            for (int left = bytesLeft(); left > 0 && takeSign('+'); left--) {
+                readPart();
                 law.addStep(Law.PLUS, 0);
             }
-            return right;
         }
 
-        private boolean readPart() {
-            if (isNumberNext()) {
-                int number = takeNumber(0, Law.MOST_NUMBER);
-                law.addStep(Law.NUMBER, number);
-                return number != NONE;
-            }
+        private void readPart() {
             int step = takeWord("who") ? Law.WHO
                 : takeWord("whom") ? Law.WHOM
                 : takeWord("rank") ? Law.RANK
                 : takeWord("theirs") ? Law.THEIRS
                 : takeWord("met") ? Law.MET
                 : takeWord("round") ? Law.ROUND
-                : NONE;
-            law.addStep(step, 0);
-            return step != NONE || nextIsWrong();
+                : Law.NUMBER;
+            law.addStep(step, step == Law.NUMBER ? readNumber(0, Law.MOST_NUMBER) : 0);
         }
     }
 
