@@ -30,6 +30,9 @@ public final class ColdsTest {
         Checks.due("nothing stays", x.count(11), 4);
         Checks.due("the law, OWN and waves count for nothing", Checks.law(x, "wave"), 1);
         Checks.due("a round", x.colds(0, 1), 15);
+        x.cut(4);
+        Checks.due("a tie that is cut passes none", x.colds(0, 20), 62);
+        x.undo();
         x.cold(2, false);
         Checks.due("no cold", x.colds(0, 20), 0);
         x.cold(0, true);

@@ -81,8 +81,9 @@ public final class LandsTest {
         Checks.due("without habits", x.odds(2, 0), 0);
         Checks.town(x, "habit 1 embrace weight 2");
         Checks.due("2 of 6, rounded down", x.odds(1, 0), 3333);
-        Checks.town(x, "habit 2 wave weight 7");
-        Checks.due("all", x.odds(2, 0), 10000);
+        Checks.town(x, "habit 2 wave weight 1");
+        Checks.due("1 of 1", x.odds(2, 0), 10000);
+        Checks.due("0 of 1", x.odds(2, 8), 0);
         wrongLand("odds", land -> x.odds(land, 0));
         Checks.thrown("no greeting", Checks.INDEX, () -> x.odds(0, 32));
         Checks.thrown("no greeting", Checks.INDEX, () -> x.odds(0, -1));
@@ -104,6 +105,9 @@ public final class LandsTest {
         Checks.thrown("128", Checks.ARGUMENT, () -> Checks.from(x, true, 8, 8, 8, 128));
         Checks.due("four", Checks.from(x, false, 8, 8, 8, 8), 3);
         Checks.thrown("five", Checks.ARGUMENT, () -> Checks.from(x, false, 8, 8, 8, 8, 8));
+        x.feed(0x08080808, 0xFF000000, 0, 0, 0);
+        x.end(4);
+        Checks.due("a byte behind the tape's end is none", x.from(false), 3);
         Checks.due("from reads no text", x.fault(), -1);
         Checks.wrongTown(x, "hug", 0);
         Checks.from(x, false, 8);

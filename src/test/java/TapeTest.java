@@ -5,6 +5,7 @@ public final class TapeTest {
         feed();
         order();
         end();
+        cutOff();
         usedUp();
         Checks.finish();
     }
@@ -73,6 +74,27 @@ public final class TapeTest {
         Checks.due("feed behind 7", x.feed(0, 0, 0, 0, 0), 27);
         Checks.due("end(0)", x.end(0), true);
         Checks.due("feed behind 0", x.feed(0, 0, 0, 0, 0), 20);
+    }
+
+    /** What once stood behind the tape's end is no part of a text. */
+    private static void cutOff() {
+        CheekTown x = new CheekTown();
+        Checks.feed(x, "air 99;land");
+        x.end(5);
+        x.town();
+        Checks.due("air 9", x.count(15), 9);
+        Checks.due("no land", x.count(0), 0);
+        Checks.feed(x, "waves");
+        x.end(4);
+        Checks.due("wave", x.law(), 1);
+        Checks.feed(x, "wave;hug");
+        x.end(5);
+        Checks.thrown("more must come", Checks.ARGUMENT, x::law);
+        Checks.due("fault", x.fault(), 5);
+        Checks.feed(x, "wave if same");
+        x.end(11);
+        Checks.thrown("sam", Checks.ARGUMENT, x::law);
+        Checks.due("fault", x.fault(), 8);
     }
 
     private static void usedUp() {
