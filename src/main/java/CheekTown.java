@@ -163,7 +163,7 @@ public final class CheekTown {
     public int cost(int greeting, int other) throws IndexOutOfBoundsException {
         needGreeting(greeting);
         needGreeting(other);
-        return now.manners.costOf(greeting, other);
+        return now.lands.manners.costOf(greeting, other);
     }
 
     public int habit(int land, int greeting) throws IndexOutOfBoundsException {
@@ -650,9 +650,9 @@ public final class CheekTown {
             case 11: return now.peopleWithCold();
             case 12: return now.log.rows;
             case 13: return actsKept;
-            case 14: return now.manners.stomach;
-            case 15: return now.manners.air;
-            case 16: return now.manners.noses;
+            case 14: return now.lands.manners.stomach;
+            case 15: return now.lands.manners.air;
+            case 16: return now.lands.manners.noses;
             default: return NONE;
         }
     }
@@ -704,24 +704,21 @@ public final class CheekTown {
         }
     }
 
-    /** The lands, and all their habits in the order in which they were told. */
+    /** The lands, all their habits in the order in which they were told, and what it costs to miss one another. */
     private static final class Lands {
         static final int MOST_LANDS = 6;
         static final int MOST_HABITS = 24;
         static final int MOST_WEIGHT = 9;
 
-        private final Manners manners;
+        final Manners manners = new Manners();
         int landCount;
         int habitCount;
         private final int[] habitLand = new int[MOST_HABITS];
         private final int[] habitGreeting = new int[MOST_HABITS];
         private final int[] habitWeight = new int[MOST_HABITS];
 
-        Lands(Manners manners) {
-            this.manners = manners;
-        }
-
         void copyFrom(Lands other) {
+            manners.copyFrom(other.manners);
             landCount = other.landCount;
             habitCount = other.habitCount;
             System.arraycopy(other.habitLand, 0, habitLand, 0, MOST_HABITS);
@@ -1023,8 +1020,7 @@ public final class CheekTown {
 
     /** All that an image keeps: who there is, and how all has gone so far. */
     private static final class Town {
-        final Manners manners = new Manners();
-        final Lands lands = new Lands(manners);
+        final Lands lands = new Lands();
         final Person[] people = new Person[MOST_PEOPLE];
         int peopleCount;
         final int[] tieWho = new int[MOST_TIES];
@@ -1048,7 +1044,6 @@ public final class CheekTown {
         }
 
         void copyFrom(Town other) {
-            manners.copyFrom(other.manners);
             lands.copyFrom(other.lands);
             for (int i = 0; i < MOST_PEOPLE; i++) {
                 people[i].copyFrom(other.people[i]);
@@ -1150,7 +1145,7 @@ public final class CheekTown {
             int whom = Math.max(person, other);
             int began = greetingFor(who, whom);
             int beganBack = greetingFor(whom, who);
-            int price = manners.costOf(began, beganBack);
+            int price = lands.manners.costOf(began, beganBack);
             int yielder = price > 0 ? whoYields(who, whom) : NONE;
             int did = yielder == who ? beganBack : began;
             int didBack = yielder == whom ? began : beganBack;
@@ -1204,7 +1199,7 @@ public final class CheekTown {
         }
 
         int costOfOwns(int person, int other) {
-            return manners.costOf(people[person].own, people[other].own);
+            return lands.manners.costOf(people[person].own, people[other].own);
         }
 
         /** A land that counts by its people counts once for each of them. */
@@ -1221,7 +1216,7 @@ public final class CheekTown {
             for (int tie = 0; tie < tieCount; tie++) {
                 int who = Math.min(tieWho[tie], tieWhom[tie]);
                 int whom = Math.max(tieWho[tie], tieWhom[tie]);
-                int price = manners.costOf(greetingFor(who, whom), greetingFor(whom, who));
+                int price = lands.manners.costOf(greetingFor(who, whom), greetingFor(whom, who));
                 int waits = beginner(rule, who, whom) == who ? whom : who;
                 together += price * (100 - people[waits].bent);
             }
@@ -1492,11 +1487,11 @@ public final class CheekTown {
             }
             int price = readNumber(0, Manners.MOST_PRICE);
             if (isStomach) {
-                town.manners.stomach = price;
+                town.lands.manners.stomach = price;
             } else if (isAir) {
-                town.manners.air = price;
+                town.lands.manners.air = price;
             } else {
-                town.manners.noses = price;
+                town.lands.manners.noses = price;
             }
         }
     }
