@@ -238,28 +238,33 @@ public final class ActsTest {
 
     /** All rows of the log come back, also those that newer ones were written over. */
     private static void wholeLog() {
+        for (int what = 0; what < 8; what++) {
+            wholeLogOf(what);
+        }
+    }
+
+    private static void wholeLogOf(int what) {
         CheekTown x = Checks.townOf(FOUR);
         for (int i = 0; i < 50; i++) {
             x.meet(i % 3, 3);
         }
         x.image();
-        int[][] rows = new int[61][8];
+        int[] rows = new int[61];
         for (int ago = 0; ago <= 60; ago++) {
-            for (int what = 0; what < 8; what++) {
-                rows[ago][what] = x.log(ago, what);
-            }
+            rows[ago] = x.log(ago, what);
         }
         x.rounds(50);
         x.rounds(1);
         for (int i = 0; i < 2; i++) {
             x.undo();
         }
+        for (int ago = 0; ago <= 60; ago++) {
+            Checks.due("undone: log(" + ago + ", " + what + ")", x.log(ago, what), rows[ago]);
+        }
         x.rounds(30);
         x.back();
         for (int ago = 0; ago <= 60; ago++) {
-            for (int what = 0; what < 8; what++) {
-                Checks.due("log(" + ago + ", " + what + ")", x.log(ago, what), rows[ago][what]);
-            }
+            Checks.due("gone back: log(" + ago + ", " + what + ")", x.log(ago, what), rows[ago]);
         }
     }
 

@@ -112,6 +112,15 @@ final class Checks {
         due("fault of '" + text + "'", x.fault(), fault);
     }
 
+    /** A text that is wrong at the begin of its rest. */
+    static void wrongTownBehind(CheekTown x, String right, String rest) {
+        wrongTown(x, right + rest, right.length());
+    }
+
+    static void wrongLawBehind(CheekTown x, String right, String rest) {
+        wrongLaw(x, right + rest, right.length());
+    }
+
     static void rightTown(CheekTown x, String text) {
         feed(x, text);
         try {

@@ -14,13 +14,14 @@ public final class StateTest {
     }
 
     private static void cost() {
-        CheekTown x = Checks.townOf("stomach 90;air 7;noses 31");
         for (int g = 0; g < 32; g++) {
+            CheekTown x = Checks.townOf("stomach 90;air 7;noses 31");
             for (int h = 0; h < 32; h++) {
                 int kisses = 7 * Math.abs(g / 2 % 4 - h / 2 % 4) + (g % 2 != h % 2 ? 31 : 0);
                 Checks.due("cost(" + g + ", " + h + ")", x.cost(g, h), g / 8 != h / 8 ? 90 : g / 8 == 2 ? kisses : 0);
             }
         }
+        CheekTown x = new CheekTown();
         for (int wrong : new int[] {-1, 32, Integer.MIN_VALUE, Integer.MAX_VALUE}) {
             Checks.thrown("cost(" + wrong + ", 0)", Checks.INDEX, () -> x.cost(wrong, 0));
             Checks.thrown("cost(0, " + wrong + ")", Checks.INDEX, () -> x.cost(0, wrong));
