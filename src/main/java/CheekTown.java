@@ -21,6 +21,8 @@ public final class CheekTown {
     private static final int SPAN_SEEDS = 6;
     private static final int HAS_ONE_NOW = -2;
     private static final int TOO_MANY = -3;
+    /** More than any costs come to. */
+    private static final int ABOVE_ALL = 1000000000;
 
     private final int[] tape = new int[MOST_BYTES];
     private int tapeLength;
@@ -365,7 +367,7 @@ public final class CheekTown {
     }
 
     public int worth() {
-        int together = Integer.MAX_VALUE;
+        int together = ABOVE_ALL;
         for (int greeting = 0; greeting < GREETINGS; greeting++) {
             together = Math.min(together, now.expectedByAll(greeting));
         }
@@ -428,13 +430,13 @@ public final class CheekTown {
 
     public int pairs(boolean left) {
         int free = now.peopleTied();
-        int most = mostPairs(free);
+        int most = mostPairs(now, 0, free);
         if (!left) {
             return most;
         }
         for (int tie = 0; tie < now.tieCount; tie++) {
             int two = 1 << now.tieWho[tie] | 1 << now.tieWhom[tie];
-            if ((free & two) == two && mostPairs(free & ~two) == most - 1) {
+            if ((free & two) == two && mostPairs(now, 0, free & ~two) == most - 1) {
                 free &= ~two;
                 most--;
             }
@@ -442,19 +444,19 @@ public final class CheekTown {
         return free;
     }
 
-    /** Each level has one less who is free: at most 10 are. */
-    private int mostPairs(int free) {
-        int set = free & now.everybody();
-        if (set == 0) {
+    /** Among those who are free, from one on; each level goes on to the next one: at most 10 are. */
+    private static int mostPairs(Town town, int one, int free) {
+        if (one < 0 || one >= town.peopleCount) {
             return 0;
         }
-        int one = Integer.numberOfTrailingZeros(set);
-        int rest = set & ~(1 << one);
-        int most = mostPairs(rest);
-        int partners = now.people[one].tiedTo & rest;
-        for (int i = 0; i < now.peopleCount; i++) {
-            if (isIn(partners, i)) {
-                most = Math.max(most, 1 + mostPairs(rest & ~(1 << i)));
+        int most = mostPairs(town, one + 1, free);
+        if (!isIn(free, one)) {
+            return most;
+        }
+        int partners = town.people[one].tiedTo & free;
+        for (int other = one + 1; other < town.peopleCount; other++) {
+            if (isIn(partners, other)) {
+                most = Math.max(most, 1 + mostPairs(town, one + 1, free & ~(1 << other)));
             }
         }
         return most;
@@ -588,7 +590,7 @@ public final class CheekTown {
 
     public int span(int n, boolean most) throws IllegalArgumentException {
         needNumber(n, 0, MOST_TRIED_ROUNDS);
-        int fewest = Integer.MAX_VALUE;
+        int fewest = ABOVE_ALL;
         int greatest = 0;
         for (int seed = 1; seed <= SPAN_SEEDS; seed++) {
             draft.copyFrom(now);
@@ -1719,9 +1721,9 @@ public final class CheekTown {
             }
             leastCost = 0;
             if (guestCount > 0) {
-                leastCost = Integer.MAX_VALUE;
+                leastCost = ABOVE_ALL;
                 order[0] = guests[0];
-                seatNext(1, 1, 0);
+                seatNext(this, 1, 1, 0);
             }
         }
 
@@ -1730,19 +1732,19 @@ public final class CheekTown {
         }
 
         /** Each level seats one more: at most 8 are. */
-        private void seatNext(int seated, int taken, int costSoFar) {
-            if (seated < 1 || costSoFar >= leastCost) {
+        private static void seatNext(Seating at, int seated, int taken, int costSoFar) {
+            if (seated < 1 || costSoFar >= at.leastCost) {
                 return;
             }
-            if (seated >= guestCount) {
-                closeRing(costSoFar);
+            if (seated >= at.guestCount) {
+                at.closeRing(costSoFar);
                 return;
             }
-            for (int i = 1; i < guestCount; i++) {
+            for (int i = 1; i < at.guestCount; i++) {
                 if (!isIn(taken, i)) {
-                    order[seated] = guests[i];
-                    int between = town.costOfOwns(order[seated - 1], guests[i]);
-                    seatNext(seated + 1, taken | 1 << i, costSoFar + between);
+                    at.order[seated] = at.guests[i];
+                    int between = at.town.costOfOwns(at.order[seated - 1], at.guests[i]);
+                    seatNext(at, seated + 1, taken | 1 << i, costSoFar + between);
                 }
             }
         }
